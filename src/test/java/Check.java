@@ -1,0 +1,100 @@
+import java.util.NoSuchElementException;
+import java.util.function.LongSupplier;
+
+/** Counts the answers that are not as due. */
+final class Check {
+    private int wrong;
+    private int looked;
+
+    /** Makes THE TEXT of an object to be just this one (80 signs at most). */
+    static void text(SilentLetters x, String text) {
+        x.end(0);
+        for (int i = 0; i < text.length(); i += 4) {
+            int v = 0;
+            for (int j = i; j < i + 4; j++) {
+                v = v << 8 | (j < text.length() ? text.charAt(j) & 255 : 0);
+            }
+            x.sign(v);
+        }
+        x.end(text.length());
+    }
+
+    static SilentLetters withWords(String text) {
+        SilentLetters x = new SilentLetters();
+        text(x, text);
+        x.words();
+        return x;
+    }
+
+    static int words(SilentLetters x, String text) {
+        text(x, text);
+        return x.words();
+    }
+
+    static int rule(SilentLetters x, String text) {
+        text(x, text);
+        return x.rule();
+    }
+
+    static int law(SilentLetters x, String text) {
+        text(x, text);
+        return x.law();
+    }
+
+    static int year(SilentLetters x, String text) {
+        text(x, text);
+        return x.year();
+    }
+
+    static String row(SilentLetters x) {
+        StringBuilder told = new StringBuilder();
+        for (int i = 0; i < x.count(10); i++) {
+            told.append(i == 0 ? "" : " ").append(x.row(i));
+        }
+        return told.toString();
+    }
+
+    void is(String what, long got, long due) {
+        looked++;
+        if (got != due) {
+            wrong++;
+            System.out.println(what + " answered " + got + ", due is " + due);
+        }
+    }
+
+    void is(String what, boolean got, boolean due) {
+        is(what, got ? 1 : 0, due ? 1 : 0);
+    }
+
+    void is(String what, String got, String due) {
+        looked++;
+        if (!got.equals(due)) {
+            wrong++;
+            System.out.println(what + " answered [" + got + "], due is [" + due + "]");
+        }
+    }
+
+    /** An answer and the ROW with it. */
+    void tells(String what, SilentLetters x, long got, long due, String row) {
+        is(what, got, due);
+        is("the ROW of " + what, row(x), row);
+    }
+
+    void noSuch(String what, LongSupplier call) {
+        looked++;
+        try {
+            long got = call.getAsLong();
+            wrong++;
+            System.out.println(what + " answered " + got + ", due is NoSuchElementException");
+        } catch (NoSuchElementException e) {
+            // as due
+        }
+    }
+
+    void end() {
+        System.out.println(looked + " answers looked at, " + wrong + " not as due");
+        if (wrong != 0) {
+            System.exit(1);
+        }
+    }
+}

@@ -690,7 +690,9 @@ public final class SilentLetters {
         int act = text.signAt(p);
         int first = text.signAt(p + 1);
         if (act == 'n') {
-            union.passDays(inForce, now, first - '0');
+            for (int day = 0; day < first - '0'; day++) {
+                union.passDay(inForce, now);
+            }
             return now.strike;
         }
         int second = text.signAt(p + 2) - '0';
@@ -1491,7 +1493,8 @@ public final class SilentLetters {
         /** A DAY goes by; answers how many pairs fell. */
         int passDay(Rule rule, State state) {
             state.strike = strikers(rule, state);
-            int pairs = pairsThatFall(state);
+            book.spellAll(state, state.strike, codes);
+            int pairs = pairsThatFall();
             state.falls = Math.min(MOST_FALLS, state.falls + pairs);
             for (int letter = 0; letter < LETTERS; letter++) {
                 if ((state.strike >> letter & 1) == 1) {
@@ -1504,8 +1507,7 @@ public final class SilentLetters {
             return pairs;
         }
 
-        private int pairsThatFall(State state) {
-            book.spellAll(state, state.strike, codes);
+        private int pairsThatFall() {
             int pairs = 0;
             for (int one = 0; one < book.size; one++) {
                 for (int other = one + 1; other < book.size; other++) {

@@ -28,6 +28,7 @@ public final class PromiseTest {
         apartAndShared();
         chains();
         aheadFallsWhen();
+        farthestFall();
         crossest();
         mustAndMost();
         joinsSafeParts();
@@ -325,6 +326,8 @@ public final class PromiseTest {
         check.is("13: at", x.at(0, 0), 7);
         check.is("13: unsaid", x.mutes(0, 1), 2);
         check.is("13: unsaid", x.mutes(0, 2), 1);
+        check.is("8: unsaid at once", x.letter(1, 2), 1);
+        check.is("8: said at once", x.letter(7, 3), 1);
         check.is("13: the only one", x.mutes(0, 0), -2);
         check.is("13: the only one", x.mutes(1, 0), -2);
         int[][] none = {{-1, 0}, {2, 0}, {0, 3}, {0, -1}, {1, 1}, {8, 0}, {Integer.MAX_VALUE, 0}};
@@ -457,6 +460,8 @@ public final class PromiseTest {
         check.is("17: no such set", x.kinds(-1), -1);
         SilentLetters none = new SilentLetters();
         check.tells("17: no words", none, none.kinds(0), 0, "");
+        SilentLetters y = Check.withWords("abbbbbbb;bbbbbbbb;bbbbbbb;hbbbbbbb;abbbbbbb");
+        check.tells("17: long words", y, y.kinds(0), 4, "0 1 2 3 0");
     }
 
     private static void apartAndShared() {
@@ -537,6 +542,25 @@ public final class PromiseTest {
         check.is("21: twins never", twins.falls(), -2);
     }
 
+    private static void farthestFall() {
+        // found by a search: nothing falls for 100 days, then 0 and 1 do
+        SilentLetters x = Check.withWords("aBCD;a;gEFH");
+        Check.rule(x, "(o<m)+(i>d)*(m>u)*(d=2)-(n=0)");
+        int[] moods = {5, 2, 4, 3, 8, 3, 9, 3};
+        int[] offers = {7, 2, 8, 9, 7, 7, 1, 5};
+        for (int letter = 0; letter < 8; letter++) {
+            x.stirs(letter, moods[letter] - 5);
+            x.offer(letter, offers[letter]);
+        }
+        check.is("21: in 101 days", x.falls(), -2);
+        x.days(1);
+        check.is("21: in 100 days", x.falls(), -2);
+        x.days(1);
+        check.tells("21: in 99 days", x, x.falls(), 99, "0 1");
+        x.days(60);
+        check.tells("10: on the last day", x, x.days(39), x.count(2), "1 " + x.row(1));
+    }
+
     private static void crossest() {
         SilentLetters x = Check.withWords("aBCD;Hb");
         check.tells("24: the first of equal ones", x, x.crossest(), 1, "2 4");
@@ -580,6 +604,9 @@ public final class PromiseTest {
         check.is("27: none such", x.joins(0, 6), -1);
         // 0-1, 1-4 by h, 2-3 by a, 4-5 by both meet; 0-4 are twins
         check.tells("28: the most, the least", x, x.safe(), 3, "37");
+        joinsOfFew();
+        safeByOneSet();
+        partsOfMany();
         SilentLetters twins = Check.withWords("aB;Ab;Ba;aBc;aBd");
         check.tells("27: twins by no strike", twins, twins.joins(0, 1), 0, "0");
         // 0 meets its twin 1, and 2 by b; 1 and 2 are a and b by both
@@ -601,6 +628,38 @@ public final class PromiseTest {
         SilentLetters z = Check.withWords("ab;aB;b");
         check.is("29: said in the first, twins in letters", z.parts(0, 1), -2);
         check.tells("29: b is said", z, z.parts(2, 0), 0, "0");
+    }
+
+    private static void joinsOfFew() {
+        SilentLetters x = Check.withWords("aBC;aCB;dABC;dCAB");
+        check.tells("27: b or c, the least", x, x.joins(0, 1), 1, "2");
+        check.tells("27: c, or a and b, the fewest", x, x.joins(2, 3), 1, "4");
+        x.noticed(2, 3, 1);
+        check.tells("32: c, or a and b, and more", x, x.fits(), 5, "4 0");
+        x.forget();
+    }
+
+    private static void safeByOneSet() {
+        // only if all strike is there a and a
+        SilentLetters x = Check.withWords("aABCDEFG;aH");
+        check.tells("27: all", x, x.joins(0, 1), 8, "255");
+        check.tells("28: by one set", x, x.safe(), 1, "1");
+        check.tells("37: by one set", x, x.misread(0, 1, 1), 0, "1 100000000");
+        // only if none strikes are they alike
+        SilentLetters y = Check.withWords("abcdefgH;ABCDEFGh");
+        check.tells("28: by none", y, y.safe(), 1, "1");
+        check.is("29: by none", y.parts(0, 1), -2);
+        check.tells("37: by none", y, y.misread(0, 1, 9), 0, "1 100000000");
+    }
+
+    private static void partsOfMany() {
+        // Cb, CB not allowed, cb are taken for cBBB and so on, cB is not
+        SilentLetters x = Check.withWords("Cb;CbBB;BcA;CBc;bCAB;BbCa");
+        check.tells("29: all of them", x, x.parts(0, 1), 2, "3");
+        // two of the first places would do, too, but the third alone does
+        check.tells("29: the fewest", x, x.parts(2, 3), 1, "4");
+        check.tells("29: the fewest", x, x.parts(4, 5), 1, "8");
+        check.is("29: nothing changes", x.at(0, 0), 10);
     }
 
     private static void notices() {
@@ -659,6 +718,11 @@ public final class PromiseTest {
         Check.rule(x, "(i=1)*10+(o<i)");
         check.is("34: for some", x.calms(), -2);
         check.tells("35: the others", x, x.buys(9), 2, "132 0");
+        x.mutes(0, 1);
+        check.tells("35: said ones are no more bought", x, x.buys(9), 2, "132 0");
+        Check.rule(x, "1-o");
+        x.mutes(0, 1);
+        check.tells("35: unsaid ones at once", x, x.buys(9), 3, "134 6");
         // an offer may rouse: the least that does
         Check.rule(x, "o=0");
         check.tells("34: one each", x, x.calms(), 3, "0 1 1 0 0 0 0 1");
@@ -679,6 +743,11 @@ public final class PromiseTest {
         check.tells("36: no votes", none, none.power(0), 0, "0 1");
         SilentLetters one = Check.withWords("aB");
         check.tells("36: it alone", one, one.power(1), 128, "1 1");
+        SilentLetters last = Check.withWords("aHHH;aBC");
+        check.tells("36: h has more than half", last, last.power(7), 128, "1 1");
+        check.tells("36: b turns none", last, last.power(1), 0, "0 1");
+        last.mutes(1, 0);
+        check.is("13: the only said one", last.count(6), 5);
     }
 
     private static void misread() {

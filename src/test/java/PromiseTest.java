@@ -591,6 +591,10 @@ public final class PromiseTest {
         check.tells("26: of as many the least", y, y.most(), 2, "66");
         SilentLetters z = Check.withWords("aBC;a;Gd;AbC;abc");
         check.tells("25: but twins", z, z.must(25), 0, "0");
+        SilentLetters eight = Check.withWords(EIGHT);
+        check.tells("25: of eight words", eight, eight.must(255), 7, "254");
+        check.tells("25: but the last", eight, eight.must(127), 6, "126");
+        check.tells("26: of eight words", eight, eight.most(), 0, "0");
         SilentLetters none = Check.withWords("ab;ba");
         check.tells("26: none is unsaid", none, none.most(), 0, "0");
     }

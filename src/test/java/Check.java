@@ -80,6 +80,67 @@ final class Check {
         is("the ROW of " + what, row(x), row);
     }
 
+    /** All that can be seen by calls that change nothing, but the ROW and THE TEXT. */
+    static String seen(SilentLetters x) {
+        StringBuilder all = new StringBuilder();
+        for (int what = 0; what <= 9; what++) {
+            all.append(x.count(what)).append(' ');
+        }
+        for (int word = 0; word < x.count(0); word++) {
+            for (int i = 0; i < x.word(word, 0); i++) {
+                all.append(i == 0 ? '/' : '.').append(x.at(word, i));
+            }
+        }
+        for (int letter = 0; letter < 8; letter++) {
+            for (int what = 0; what <= 5; what++) {
+                all.append(what == 0 ? '|' : ',').append(x.letter(letter, what));
+            }
+        }
+        return all.toString();
+    }
+
+    /** A refused call, or another one that answers and leaves all as it was: the ROW and THE TEXT, too. */
+    void leaves(String what, SilentLetters x, LongSupplier call, long due) {
+        int signs = x.count(11);
+        leavesButText(what, x, call, due);
+        is("signs of THE TEXT behind " + what, x.count(11), signs);
+    }
+
+    /** A call that reads THE TEXT, empties it and leaves all else as it was. */
+    void emptiesText(String what, SilentLetters x, LongSupplier call, long due) {
+        leavesButText(what, x, call, due);
+        is("signs of THE TEXT behind " + what, x.count(11), 0);
+    }
+
+    private void leavesButText(String what, SilentLetters x, LongSupplier call, long due) {
+        String before = seen(x);
+        String row = row(x);
+        is(what, call.getAsLong(), due);
+        is("what " + what + " leaves", seen(x), before);
+        is("the ROW that " + what + " leaves", row(x), row);
+    }
+
+    /** A question: it tells a ROW and changes nothing else. */
+    void asks(String what, SilentLetters x, LongSupplier call, long due, String row) {
+        String before = seen(x);
+        int signs = x.count(11);
+        is(what, call.getAsLong(), due);
+        is("the ROW of " + what, row(x), row);
+        is("what the question " + what + " leaves", seen(x), before);
+        is("signs of THE TEXT behind " + what, x.count(11), signs);
+    }
+
+    /** A call that throws NoSuchElementException and leaves all as it was. */
+    void noSuchLeaves(String what, SilentLetters x, LongSupplier call) {
+        String before = seen(x);
+        String row = row(x);
+        int signs = x.count(11);
+        noSuch(what, call);
+        is("what " + what + " leaves", seen(x), before);
+        is("the ROW that " + what + " leaves", row(x), row);
+        is("signs of THE TEXT behind " + what, x.count(11), signs);
+    }
+
     void noSuch(String what, LongSupplier call) {
         looked++;
         try {

@@ -60,6 +60,7 @@ public final class EdgesOfDaysTest {
         undoYearAsOne();
         undoYearWithoutActs();
         undoBringsBack();
+        undoEachKindBringsBack();
         undoLeavesTheRest();
         wordsForgetWhatCanBeUndone();
         againForgetsWhatCanBeUndone();
@@ -152,6 +153,13 @@ public final class EdgesOfDaysTest {
         x.days(1);
         check.is("1: falls", x.count(3), 2);
         check.is("6: twins are one", x.word(0, 4), 12);
+        // the same but for the first letter, or for the last, are no twins
+        for (String two : new String[] {"Ab;Cb", "bA;bC", "bA;b", "Ab;b", "bAd;bCd"}) {
+            SilentLetters y = Check.withWords(two);
+            Check.rule(y, "1");
+            y.days(1);
+            check.is("1: falls of " + two, y.count(3), 1);
+        }
         SilentLetters eight = Check.withWords(EIGHT);
         Check.rule(eight, "1");
         eight.days(1);
@@ -710,6 +718,27 @@ public final class EdgesOfDaysTest {
         int[] due = {4, 1, 129, 2, 36, 4, 3, 7, 0, 3};
         for (int what = 0; what < due.length; what++) {
             check.is("15: count(" + what + ") as it was", x.count(what), due[what]);
+        }
+    }
+
+    private static void undoEachKindBringsBack() {
+        SilentLetters x = Check.withWords(FOUR);
+        for (int kind = 0; kind < 5; kind++) {
+            // a sheet ahead of each: no state that was seen before is as this one
+            x.sheet(2, 8, kind, 1);
+            Check.year(x, "n1");
+            x.sheet(2, 8, kind, 0);
+            String before = Check.seen(x);
+            int left = x.count(9);
+            switch (kind) {
+                case 0 -> x.days(7);
+                case 1 -> x.offer(0, 7);
+                case 2 -> x.stirs(0, 3);
+                case 3 -> x.mutes(1, 0);
+                default -> Check.year(x, "n7oa5ra1x10");
+            }
+            check.is("15: kind " + kind + " is undone", x.undo(), left);
+            check.is("15: all is as ahead of kind " + kind, Check.seen(x), before);
         }
     }
 

@@ -35,6 +35,7 @@ public final class EdgesOfLooksTest {
         apartRefused();
         sharedAtTheEnds();
         sharedRefused();
+        apartAndSharedByTurns();
 
         chainOfLikeOnes();
         chainByZeroToEight();
@@ -261,6 +262,7 @@ public final class EdgesOfLooksTest {
         x.days(1);
         check.asks("23: by strike seven", x, () -> x.shared(3, 4), 7, "8");
         check.asks("23: by strike one", x, () -> x.shared(0, 6), 1, "8");
+        check.asks("23: by strike one, the other way", x, () -> x.shared(6, 0), 1, "8");
         check.asks("23: by strike none", x, () -> x.shared(2, 4), 0, "1");
     }
 
@@ -273,6 +275,18 @@ public final class EdgesOfLooksTest {
         check.asks("23: the first and the last", x, () -> x.shared(0, 3), 1, "1");
         SilentLetters none = new SilentLetters();
         check.leaves("23: no words", none, () -> none.shared(0, 1), -1);
+    }
+
+    private static void apartAndSharedByTurns() {
+        SilentLetters x = Check.withWords("abcd;efg;h;efgabcd");
+        for (int i = 0; i < 3; i++) {
+            check.asks("18: nothing in common", x, () -> x.apart(0, 1), 4, "4");
+            check.asks("23: nothing in common", x, () -> x.shared(0, 1), 0, "0");
+            check.asks("18: one and three", x, () -> x.apart(2, 1), 3, "3");
+            check.asks("23: one and three", x, () -> x.shared(2, 1), 0, "0");
+            check.asks("18: three more", x, () -> x.apart(3, 0), 3, "3");
+            check.asks("23: four of seven", x, () -> x.shared(3, 0), 4, "4");
+        }
     }
 
     // ---- 19: chain
@@ -507,7 +521,9 @@ public final class EdgesOfLooksTest {
         x.days(0);
         check.leaves("24: all is said", x, x::crossest, -2);
         x.mutes(0, 2);
-        check.asks("24: h is unsaid", x, x::crossest, 7, "2 1");
+        check.tells("24: h is unsaid at once", x, x.crossest(), 7, "2 1");
+        x.mutes(0, 2);
+        check.is("24: h is said at once", x.crossest(), -2);
     }
 
     private static void crossestOfEqualOnes() {

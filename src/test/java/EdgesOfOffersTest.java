@@ -23,6 +23,7 @@ public final class EdgesOfOffersTest {
         buysTheCheapestThenTheLeast();
         buysGrudgesAboveZeroAlone();
         buysWhatCanBeBought();
+        offersAndVotesAtOnce();
         powerOfNone();
         powerAtHalf();
         powerOfAll();
@@ -188,6 +189,25 @@ public final class EdgesOfOffersTest {
         check.asks("35: a is, b almost is", x, () -> x.buys(1), 1, "2 0");
         Check.rule(x, "10-o");
         check.asks("35: none can be", x, () -> x.buys(99), 0, "0 99");
+    }
+
+    private static void offersAndVotesAtOnce() {
+        SilentLetters x = Check.withWords("aBC");
+        for (int i = 0; i < 2; i++) {
+            check.tells("34: b and c are unsaid", x, x.calms(), 2, "0 1 1 0 0 0 0 0");
+            x.mutes(0, 1);
+            check.tells("34: b is said at once", x, x.calms(), 1, "0 0 1 0 0 0 0 0");
+            x.mutes(0, 1);
+            check.tells("35: b is unsaid at once", x, x.buys(9), 2, "6 7");
+            x.mutes(0, 1);
+            check.tells("35: b is said at once", x, x.buys(9), 1, "4 8");
+            x.mutes(0, 1);
+            check.tells("36: b is unsaid at once", x, x.power(1), 64, "1 2");
+            x.mutes(0, 1);
+            check.tells("36: b is said at once", x, x.power(1), 0, "0 1");
+            check.tells("36: c alone is unsaid", x, x.power(2), 128, "1 1");
+            x.mutes(0, 1);
+        }
     }
 
     // ---- 36: power

@@ -38,6 +38,7 @@ public final class EdgesOfStrikesTest {
         safeOfNoneToEight();
         safeOfTwins();
         safeTheLeast();
+        safeAtOnce();
         partsOfNoneToMany();
         partsByNone();
         partsWithASaidOne();
@@ -58,6 +59,7 @@ public final class EdgesOfStrikesTest {
         nextOfEqualOnes();
         nextOfTheLast();
         nextAtTheEnds();
+        nextAtOnce();
         check.end();
     }
 
@@ -227,6 +229,16 @@ public final class EdgesOfStrikesTest {
         check.asks("28: like ones", x, x::safe, 1, "1");
         SilentLetters y = Check.withWords("abcdefgH;ABCDEFGh");
         check.asks("28: by no strike alone", y, y::safe, 1, "1");
+    }
+
+    private static void safeAtOnce() {
+        SilentLetters x = Check.withWords("Hab;ab");
+        check.tells("28: h is unsaid", x, x.safe(), 1, "1");
+        x.mutes(0, 0);
+        check.tells("28: h is said", x, x.safe(), 2, "3");
+        check.tells("33: h is said", x, x.next(), 1, "0 1");
+        x.mutes(0, 0);
+        check.tells("28: h is unsaid", x, x.safe(), 1, "1");
     }
 
     private static void safeTheLeast() {
@@ -469,5 +481,16 @@ public final class EdgesOfStrikesTest {
         // of four sets 0 and 1 are one by three, 0 and 2 by two
         SilentLetters half = Check.withWords("aBC;aCB;aB;aBC");
         check.asks("33: by half", half, half::next, 2, "0 2");
+    }
+
+    private static void nextAtOnce() {
+        SilentLetters x = Check.withWords("c;Hab;ab;cAb;cb");
+        for (int i = 0; i < 3; i++) {
+            check.tells("33: by h, or by a", x, x.next(), 2, "1 2");
+        }
+        x.mutes(1, 0);
+        check.tells("33: by a alone", x, x.next(), 1, "3 4");
+        x.mutes(3, 1);
+        check.tells("33: by none", x, x.next(), 1, "0 1");
     }
 }

@@ -483,6 +483,10 @@ public final class EdgesOfTextsTest {
         rule("m+1000", -6);
         rule("(1000)", -5);
         rule("123-1234", -8);
+        // a digit goes on with a number alone, not with what stands behind one
+        rule("1+m2", -4);
+        rule("12*(o)3", -7);
+        rule("(1)2", -4);
     }
 
     private static void fourBracketsInOneAnother() {
@@ -603,6 +607,15 @@ public final class EdgesOfTextsTest {
         check.is("5: the rule stays", x.letter(1, 5), 7);
         Check.rule(x, "3");
         check.is("5: a short one behind a long one", x.letter(1, 5), 3);
+        // what was read of a refused one is gone
+        for (String refused : new String[] {"5-", "2*-", "((((", "9-(8-(7-", "3<", "-", "12*"}) {
+            check.is("5: refused " + refused, Check.rule(x, refused), -1 - refused.length());
+            check.is("5: a rule behind it", Check.rule(x, "7"), 0);
+            check.is("5: its grudge", x.letter(1, 5), 7);
+            check.is("5: refused " + refused, Check.rule(x, refused), -1 - refused.length());
+            check.is("39: a law behind it", Check.law(x, "m<(o)"), 0);
+            check.is("39: its grudge", x.row(2), 0);
+        }
     }
 
     private static void comparisonsAtEquals() {

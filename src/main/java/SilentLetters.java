@@ -1608,6 +1608,9 @@ public final class SilentLetters {
 
         /** The first WORD beside one that is so many steps from the goal, or NONE. */
         int stepFrom(int word, int left) {
+            if (!book.has(word)) {
+                return NONE;
+            }
             for (int other = 0; other < book.size; other++) {
                 if (steps[other] == left && near[word * WORDS + other]) {
                     return other;

@@ -47,6 +47,9 @@ final class Check {
     }
 
     static String row(SilentLetters x) {
+        if (x.count(10) < 0) {
+            return "numbers below 0";
+        }
         StringBuilder told = new StringBuilder();
         for (int i = 0; i < x.count(10); i++) {
             told.append(i == 0 ? "" : " ").append(x.row(i));

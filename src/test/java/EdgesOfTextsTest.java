@@ -49,6 +49,7 @@ public final class EdgesOfTextsTest {
         fortySignsOfRule();
         moreThanFortySignsOfRule();
         refusedRuleLeavesTheRule();
+        rulesThatWereHaveNoPart();
         comparisonsAtEquals();
         fromTheLeft();
         whatBindsMore();
@@ -615,6 +616,19 @@ public final class EdgesOfTextsTest {
             check.is("5: refused " + refused, Check.rule(x, refused), -1 - refused.length());
             check.is("39: a law behind it", Check.law(x, "m<(o)"), 0);
             check.is("39: its grudge", x.row(2), 0);
+        }
+    }
+
+    private static void rulesThatWereHaveNoPart() {
+        SilentLetters x = Check.withWords("Ab");
+        // any number that was worked out last, the numbers of all signs among them
+        for (int last = 0; last < 300; last++) {
+            check.is("39: law " + last, Check.law(x, Integer.toString(last)), last == 0 ? 0 : 1);
+            check.is("5: a rule behind it", Check.rule(x, "7"), 0);
+            check.is("5: its grudge", x.letter(0, 5), 7);
+            Check.law(x, "-" + last);
+            check.is("39: a law behind it", Check.law(x, "9-2*3"), 1);
+            check.is("39: its grudge", x.row(1), 3);
         }
     }
 

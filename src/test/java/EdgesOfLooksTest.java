@@ -58,6 +58,7 @@ public final class EdgesOfLooksTest {
         crossestOfNone();
         crossestOfEqualOnes();
         crossestAtTheEnds();
+        crossestAtOnce();
         check.end();
     }
 
@@ -557,5 +558,18 @@ public final class EdgesOfLooksTest {
         check.asks("24: the least there is and one more", x, x::crossest, 7, "-2147483647 1");
         Check.rule(x, least + "-1");
         check.asks("24: the greatest there is", x, x::crossest, 1, "2147483647 3");
+    }
+
+    private static void crossestAtOnce() {
+        SilentLetters x = Check.withWords("aBC");
+        x.offer(1, 2);
+        check.tells("24: behind an offer", x, x.crossest(), 2, "2 1");
+        x.stirs(2, -4);
+        check.tells("24: behind a mood", x, x.crossest(), 1, "-2 2");
+        x.undo();
+        check.tells("24: behind what is undone", x, x.crossest(), 2, "2 1");
+        Check.rule(x, "n-d*i");
+        x.days(1);
+        check.tells("24: behind a day", x, x.crossest(), 1, "-1 1");
     }
 }

@@ -42,6 +42,7 @@ public final class EdgesOfOffersTest {
         lawOfNobody();
         lawFaultsFrom10000On();
         lawIsTriedAlone();
+        lawOfAllThingsAtOnce();
         restsOfAllNumbers();
         restsRefused();
         yearsOneToSixty();
@@ -432,6 +433,23 @@ public final class EdgesOfOffersTest {
         check.is("39: the text is empty", x.count(11), 0);
         check.is("39: the ROW", Check.row(x), "128 1 0 -1 -2 -3 -4 -5 -6");
         check.is("10: the rule stays", x.days(1), 128);
+    }
+
+    private static void lawOfAllThingsAtOnce() {
+        SilentLetters x = Check.withWords("aBB;cB");
+        x.days(1);
+        x.offer(2, 6);
+        x.stirs(1, 4);
+        // b alone is unsaid, three times; it struck (mood 3), was stirred up to 7, and is cross by the rule
+        String[] things = {"m", "o", "u", "s", "n", "d", "i"};
+        int[] strikes = {2, 0, 2, 0, 2, 2, 2};
+        String[] rows = {"2 5 7 5 5 5 5 5 5", "2 0 0 6 0 0 0 0 0", "2 0 3 0 0 0 0 0 0", "2 1 0 1 0 0 0 0 0",
+            "2 1 1 1 1 1 1 1 1", "2 1 1 1 1 1 1 1 1", "2 0 1 2 3 4 5 6 7"};
+        for (int i = 0; i < things.length; i++) {
+            check.tells("39: law " + things[i], x, Check.law(x, things[i]), strikes[i], rows[i]);
+        }
+        x.mutes(0, 1);
+        check.tells("39: two are unsaid now", x, Check.law(x, "u-2"), 0, "2 -2 0 -2 -2 -2 -2 -2 -2");
     }
 
     // ---- 40: rests
